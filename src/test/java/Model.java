@@ -212,7 +212,7 @@ final class Model {
         return isPupil(p) ? pupils.get(p) : BAD;
     }
 
-    private int works(List<Integer> row) {
+    int works(List<Integer> row) {
         Set<Integer> effects = new TreeSet<>();
         List<Integer> down = new ArrayList<>(row);
         Collections.reverse(down);

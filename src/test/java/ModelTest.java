@@ -22,6 +22,7 @@ public final class ModelTest {
     private int things;
     private int pupils;
     private List<Integer> effects = new ArrayList<>();
+    private List<Integer> hat = new ArrayList<>();
 
     private ModelTest(long seed) {
         lot = new Random(seed);
@@ -45,9 +46,10 @@ public final class ModelTest {
         things = 0;
         pupils = 0;
         effects = new ArrayList<>(List.of(0, 1));
+        hat = new ArrayList<>();
         // Most schools are small, so that the model's slow searches stay short; some are as great as may be.
-        int mostSpells = number % 20 == 0 ? 5 : number % 4;
-        if (number % 10 != 9) {
+        int mostSpells = number % 20 == 0 ? 5 : number % 12 == 1 ? 0 : 1 + number % 4;
+        for (int i = 0; i < 5 && things == 0 && number % 12 != 5; i++) {
             tellSchool(mostSpells);
         }
         for (int i = 0; i < 120; i++) {
@@ -76,6 +78,7 @@ public final class ModelTest {
         spells = x.count(0);
         things = x.count(1);
         pupils = x.count(2);
+        newHat();
         effects = new ArrayList<>(List.of(0, 1 << lot.nextInt(10)));
         for (int i = 0; i < 8; i++) {
             int set = 0;
@@ -109,14 +112,14 @@ public final class ModelTest {
             items.add("spell " + lot.nextInt(few) + " " + (lot.nextInt(3) > 0 ? 1 : 0) + " " + cost() + " " + cost());
         }
         int known = many;
-        for (int t = lot.nextInt(5); t > 0; t--) {
+        for (int t = lot.nextInt(8) == 0 ? lot.nextInt(5) : 1 + lot.nextInt(4); t > 0; t--) {
             StringBuilder thing = new StringBuilder("thing");
             for (int d = known == 0 ? 0 : lot.nextInt(6); d > 0; d--) {
                 thing.append(' ').append(lot.nextInt(known));
             }
             items.add(thing.toString());
         }
-        for (int p = lot.nextInt(4); p > 0; p--) {
+        for (int p = lot.nextInt(8) == 0 ? lot.nextInt(4) : 2 + lot.nextInt(2); p > 0; p--) {
             items.add("pupil " + (lot.nextInt(3) == 0 ? (1 << known) - 1 : lot.nextInt(1 << known)));
         }
         if (lot.nextBoolean()) {
@@ -242,7 +245,7 @@ public final class ModelTest {
 
     private void cheap() {
         // The model goes through all rows of five spells slowly: seldom.
-        if (spells == 5 && lot.nextInt(12) != 0) {
+        if (spells >= 4 && lot.nextInt(spells == 5 ? 12 : 3) != 0) {
             return;
         }
         int t = some(things);
@@ -258,9 +261,11 @@ public final class ModelTest {
     }
 
     private void hat() {
-        if (lot.nextBoolean()) {
+        for (int i = lot.nextInt(40) == 0 ? 8 : lot.nextInt(2); i > 0; i--) {
             int l = some(4);
-            int e = effectSet();
+            // Mostly what a real hat would do, so that something is left that it can be.
+            boolean real = l >= 0 && l <= hat.size() && lot.nextInt(6) > 0;
+            int e = real ? m.works(hat.subList(0, hat.size() - l)) : effectSet();
             due("saw(" + l + ", " + e + ")", x.saw(l, e), m.saw(l, e));
         }
         due("could()", x.could(), m.could());
@@ -269,6 +274,14 @@ public final class ModelTest {
         due("under(" + d + ")", x.under(d), m.under(d));
         if (lot.nextInt(6) == 0 || x.could() == 0) {
             due("forget()", x.forget(), m.forget());
+            newHat();
+        }
+    }
+
+    private void newHat() {
+        hat = new ArrayList<>();
+        for (int d = spells == 0 ? 0 : lot.nextInt(4); d > 0; d--) {
+            hat.add(lot.nextInt(spells));
         }
     }
 
@@ -289,9 +302,9 @@ public final class ModelTest {
         due("rate(" + kind + ", " + s + ")", x.rate(kind, s), m.rate(kind, s));
         due("trace()", x.trace(), m.trace());
         int image = some(2);
-        switch (lot.nextInt(3)) {
-            case 0 -> due("keep(" + image + ")", x.keep(image), m.keep(image));
-            case 1 -> due("back(" + image + ")", x.back(image), m.back(image));
+        switch (lot.nextInt(4)) {
+            case 0, 1 -> due("keep(" + image + ")", x.keep(image), m.keep(image));
+            case 2 -> due("back(" + image + ")", x.back(image), m.back(image));
             default -> { }
         }
     }
@@ -313,11 +326,12 @@ public final class ModelTest {
                 due("type(" + v + ", " + n + ")", x.type(v, n), m.type(v, n));
             }
         }
-        if (lot.nextInt(4) == 0) {
+        if (lot.nextInt(16) == 0) {
             due("school()", x.school(), m.school());
             spells = x.count(0);
             things = x.count(1);
             pupils = x.count(2);
+            newHat();
         }
         due("count(4)", x.count(4), m.count(4));
     }
