@@ -215,6 +215,8 @@ public final class PromisesTest {
         reads("swap 10;", -10 - 5);
         reads("copy 10;", -10 - 5);
         reads("swap 1 1;", -10 - 7);
+        reads("copy 1 1;", -10 - 7);
+        reads("hum 1 1;", -10 - 6);
         reads("swap 01;", -10 - 5);
         reads("swap 00;", -10 - 5);
         reads("swap 100;", -10 - 5);
@@ -228,6 +230,8 @@ public final class PromisesTest {
         reads("sPell 0 0 0 0;", -10);
         reads("hum 1;hug 1;", -10 - 6);
         reads("thingthing;", -10);
+        reads("humz 1;", -10);
+        reads("huma 1;", -10);
         reads("hum 1;\u00ff", -10 - 6);
         reads("hum 1;\n", -10 - 6);
         reads("hum 1;\u0000", -10 - 6);
@@ -512,6 +516,8 @@ public final class PromisesTest {
         // Thing 0 is 1 below 0: works 3.
         due("cheapest(0, 3, 0, 0) as it is", x.cheapest(0, 3, 0, 0), 0);
         due("cheapest(0, 3, 0, 1) as it is", x.cheapest(0, 3, 0, 1), -5);
+        due("cheapest(0, 0, 1, 0) all lifted", x.cheapest(0, 0, 1, 0), 3);
+        due("cheapest(0, 0, 1, 1) all lifted", x.cheapest(0, 0, 1, 1), 5);
         due("cheapest(0, 2, 0, 0) by nobody", x.cheapest(0, 2, 0, 0), -9);
         due("cheapest(0, 2, 1, 0) lift or swap", x.cheapest(0, 2, 1, 0), 2);
         due("cheapest(0, 2, 1, 1) lift is less than swap", x.cheapest(0, 2, 1, 1), 5);
@@ -880,6 +886,11 @@ public final class PromisesTest {
         }
         for (int wrong : new int[] {-1, 8, LEAST, MOST}) {
             due("count(" + wrong + ")", x.count(wrong), -1);
+        }
+        SpellLayers other = Check.school("swap 3;hum 2;copy 6;");
+        int[] told = {3, 6, 2};
+        for (int what = 5; what < 8; what++) {
+            due("count(" + what + ")", other.count(what), told[what - 5]);
         }
         SpellLayers great = Check.school(GREAT);
         int[] most = {5, 4, 3, 0, 0, 0, 9, 5};
