@@ -30,7 +30,7 @@ final class Check {
         }
     }
 
-    static void write(SpellLayers x, String text) {
+    static void write(Counted x, String text) {
         byte[] bytes = text.getBytes(StandardCharsets.ISO_8859_1);
         for (int from = 0; from < bytes.length; from += 8) {
             int n = Math.min(8, bytes.length - from);
@@ -42,8 +42,8 @@ final class Check {
         }
     }
 
-    static SpellLayers school(String text) {
-        SpellLayers x = new SpellLayers();
+    static Counted school(String text) {
+        Counted x = new Counted();
         write(x, text);
         x.school();
         return x;

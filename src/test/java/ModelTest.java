@@ -4,6 +4,8 @@ import java.util.Random;
 
 /** Runs of calls by lot (the same ones each time), each answer held against the slow model's. */
 public final class ModelTest {
+    // What is begun then ends ahead of the 512th call.
+    private static final int ENOUGH_CALLS = 430;
     private static final int[] WILD = {
         -1, -2, 5, 6, 7, 8, 10, 11, 1023, 1024, 300, 31, 32, 33, 63, 64, -31, -32,
         Integer.MAX_VALUE, Integer.MIN_VALUE, Integer.MAX_VALUE - 1, Integer.MIN_VALUE + 1
@@ -15,7 +17,7 @@ public final class ModelTest {
 
     private final Random lot;
     private final Check check = new Check("ModelTest");
-    private SpellLayers x;
+    private Counted x;
     private Model m;
     private int run;
     private int spells;
@@ -40,7 +42,7 @@ public final class ModelTest {
 
     private void oneRun(int number) {
         run = number;
-        x = new SpellLayers();
+        x = new Counted();
         m = new Model();
         spells = 0;
         things = 0;
@@ -52,7 +54,7 @@ public final class ModelTest {
         for (int i = 0; i < 5 && things == 0 && number % 12 != 5; i++) {
             tellSchool(mostSpells);
         }
-        for (int i = 0; i < 120; i++) {
+        while (x.calls() < ENOUGH_CALLS) {
             if (lot.nextInt(60) == 0) {
                 tellSchool(mostSpells);
             }
@@ -90,7 +92,7 @@ public final class ModelTest {
     }
 
     private void write(String text) {
-        for (int from = 0; from < text.length(); ) {
+        for (int from = 0; from < text.length() && x.calls() < ENOUGH_CALLS; ) {
             int n = Math.min(1 + lot.nextInt(8), text.length() - from);
             long v = lot.nextLong();
             for (int i = 0; i < n; i++) {

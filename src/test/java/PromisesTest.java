@@ -1,9 +1,7 @@
 /** Promise by promise: ordinary calls, the edges that the document names, wrong numbers. */
 public final class PromisesTest {
     private static final int LEAST = Integer.MIN_VALUE, MOST = Integer.MAX_VALUE;
-    // Three spells (0 and 2 glass), three things, three pupils.
-    private static final String SMALL = "spell 0 1 3 2;spell 1 0 4 1;spell 2 1 0 9;"
-        + "thing 1 0;thing;thing 2 1 0 0;pupil 3;pupil 4;pupil 0;swap 2;copy 5;hum 3;";
+    private static final String SMALL = Edges.SMALL;
     private static final String GREAT = "spell 9 1 9 9;spell 8 1 9 9;spell 7 1 9 9;spell 6 1 9 9;spell 5 0 9 9;"
         + "thing 4 3 2 1 0;thing;thing 0;thing 1 1 1 1;pupil 31;pupil 1;pupil 30;swap 0;copy 9;hum 5;";
 
@@ -49,36 +47,20 @@ public final class PromisesTest {
         check.due("promise " + promise + ": " + call, got, want);
     }
 
-    private static SpellLayers small() {
+    private static Counted small() {
         return Check.school(SMALL);
     }
 
-    /** All that can be read of an object without changing it. */
-    private static String looks(SpellLayers x) {
-        StringBuilder all = new StringBuilder();
-        for (int i = 0; i < 8; i++) {
-            all.append(x.count(i)).append(' ').append(i < 4 ? x.now(i) : 0).append(' ');
-        }
-        for (int t = 0; t < 4; t++) {
-            for (int d = 0; d < 5; d++) {
-                all.append(x.layer(t, d)).append(' ').append(x.spell(d, t)).append(' ');
-            }
-            all.append(x.thing(t, 2)).append(' ').append(x.pupil(t)).append(' ');
-        }
-        all.append(x.could()).append(' ').append(x.under(0)).append(' ').append(x.trace());
-        return all.toString();
-    }
-
     /** Holds that a call answers so, and changes nothing. */
-    private static void refused(SpellLayers x, String call, java.util.function.LongSupplier asked, long want) {
-        String ahead = looks(x);
+    private static void refused(Counted x, String call, java.util.function.LongSupplier asked, long want) {
+        String ahead = x.all();
         due(call, asked.getAsLong(), want);
-        check.holds("promise " + promise + ": " + call + " changes nothing", looks(x).equals(ahead));
+        check.holds("promise " + promise + ": " + call + " changes nothing", x.all().equals(ahead));
     }
 
     private static void newObject() {
         promise = 1;
-        SpellLayers x = new SpellLayers();
+        Counted x = new Counted();
         int[] counts = {0, 0, 0, 0, 0, 1, 1, 4};
         for (int what = 0; what < 8; what++) {
             due("count(" + what + ")", x.count(what), counts[what]);
@@ -104,14 +86,14 @@ public final class PromisesTest {
         due("back(0)", x.back(0), -2);
         due("back(1)", x.back(1), -2);
         due("trace()", x.trace(), 0);
-        SpellLayers other = small();
+        Counted other = small();
         other.lay(0, 0, 0);
         due("now(2) beside another object", x.now(2), 0);
     }
 
     private static void type() {
         promise = 2;
-        SpellLayers x = new SpellLayers();
+        Counted x = new Counted();
         due("type(.., 0)", x.type(59, 0), -1);
         due("type(.., 9)", x.type(59, 9), -1);
         due("type(.., -1)", x.type(59, -1), -1);
@@ -139,7 +121,7 @@ public final class PromisesTest {
 
     private static void clear() {
         promise = 3;
-        SpellLayers x = small();
+        Counted x = small();
         due("clear()", x.clear(), 0);
         x.type(0x6162, 2);
         x.type(0x63, 1);
@@ -151,7 +133,7 @@ public final class PromisesTest {
     }
 
     private static void reads(String text, int want) {
-        SpellLayers x = small();
+        Counted x = small();
         Check.write(x, text);
         if (want < 0) {
             refused(x, "school() of \"" + text + "\"", x::school, want);
@@ -243,7 +225,7 @@ public final class PromisesTest {
         reads("hum 1;" + " ".repeat(293) + "x", -10 - 299);
         reads("hum 1" + " ".repeat(295), -10 - 300);
         reads("hum 1" + " ".repeat(294) + ";", 1);
-        SpellLayers x = new SpellLayers();
+        Counted x = new Counted();
         Check.write(x, "hum");
         due("school() too early", x.school(), -13);
         Check.write(x, " 2;");
@@ -253,7 +235,7 @@ public final class PromisesTest {
 
     private static void schoolAnew() {
         promise = 4;
-        SpellLayers x = small();
+        Counted x = small();
         x.rate(0, 0);
         x.lay(0, 1, 1);
         x.saw(0, 0);
@@ -287,7 +269,7 @@ public final class PromisesTest {
 
     private static void spell() {
         promise = 5;
-        SpellLayers x = small();
+        Counted x = small();
         int[][] told = {{0, 1, 3, 2}, {1, 0, 4, 1}, {2, 1, 0, 9}};
         for (int s = 0; s < 3; s++) {
             for (int what = 0; what < 4; what++) {
@@ -304,7 +286,7 @@ public final class PromisesTest {
 
     private static void thing() {
         promise = 6;
-        SpellLayers x = small();
+        Counted x = small();
         int[][] told = {{2, 3, 0}, {0, 0, 0}, {4, 3, 1}};
         for (int t = 0; t < 3; t++) {
             for (int what = 0; what < 3; what++) {
@@ -315,7 +297,7 @@ public final class PromisesTest {
             due("thing(" + wrong + ", 0)", x.thing(wrong, 0), -1);
             due("thing(0, " + wrong + ")", x.thing(0, wrong), -1);
         }
-        SpellLayers great = Check.school(GREAT);
+        Counted great = Check.school(GREAT);
         due("thing(0, 1) through four of glass", great.thing(0, 1), 992);
         due("thing(0, 2) of just so many", great.thing(0, 2), 1);
         due("thing(3, 2) of one too few", great.thing(3, 2), 0);
@@ -324,7 +306,7 @@ public final class PromisesTest {
 
     private static void layer() {
         promise = 7;
-        SpellLayers x = small();
+        Counted x = small();
         int[] told = {0, 0, 1, 2, -5, -5};
         for (int d = 0; d < told.length; d++) {
             due("layer(2, " + d + ")", x.layer(2, d), told[d]);
@@ -340,7 +322,7 @@ public final class PromisesTest {
 
     private static void pupil() {
         promise = 8;
-        SpellLayers x = small();
+        Counted x = small();
         due("pupil(0)", x.pupil(0), 3);
         due("pupil(1)", x.pupil(1), 4);
         due("pupil(2)", x.pupil(2), 0);
@@ -352,7 +334,7 @@ public final class PromisesTest {
 
     private static void lay() {
         promise = 9;
-        SpellLayers x = small();
+        Counted x = small();
         due("lay(0, 1, 1)", x.lay(0, 1, 1), 4);
         due("lay(1, 1, 2)", x.lay(1, 1, 2), 0);
         due("layer(1, 0)", x.layer(1, 0), 2);
@@ -374,7 +356,7 @@ public final class PromisesTest {
 
     private static void lift() {
         promise = 10;
-        SpellLayers x = small();
+        Counted x = small();
         due("lift(0, 0)", x.lift(0, 0), 0);
         due("now(0)", x.now(0), 2);
         due("lift(0, 0)", x.lift(0, 0), 1);
@@ -396,7 +378,7 @@ public final class PromisesTest {
 
     private static void swap() {
         promise = 11;
-        SpellLayers x = small();
+        Counted x = small();
         due("swap(0, 0)", x.swap(0, 0), 1);
         due("layer(0, 0)", x.layer(0, 0), 1);
         due("layer(0, 1)", x.layer(0, 1), 0);
@@ -415,7 +397,7 @@ public final class PromisesTest {
             refused(x, "swap(" + wrong + ", 0)", () -> x.swap(wrong, 0), -1);
             refused(x, "swap(0, " + wrong + ")", () -> x.swap(0, wrong), -1);
         }
-        SpellLayers deep = Check.school("spell 0 0 0 0;spell 1 0 0 0;spell 2 0 0 0;thing 0 1 2;pupil 7;");
+        Counted deep = Check.school("spell 0 0 0 0;spell 1 0 0 0;spell 2 0 0 0;thing 0 1 2;pupil 7;");
         due("swap(0, 0) of three", deep.swap(0, 0), 1);
         due("layer(0, 0)", deep.layer(0, 0), 1);
         due("layer(0, 1)", deep.layer(0, 1), 2);
@@ -425,7 +407,7 @@ public final class PromisesTest {
 
     private static void copy() {
         promise = 12;
-        SpellLayers x = small();
+        Counted x = small();
         due("copy(0, 0, 1)", x.copy(0, 0, 1), 0);
         due("layer(1, 0)", x.layer(1, 0), 0);
         due("thing(0, 0)", x.thing(0, 0), 2);
@@ -444,23 +426,23 @@ public final class PromisesTest {
             refused(x, "copy(0, " + wrong + ", 1)", () -> x.copy(0, wrong, 1), -1);
             refused(x, "copy(0, 0, " + wrong + ")", () -> x.copy(0, 0, wrong), -1);
         }
-        SpellLayers first = Check.school("spell 0 0 9 9;thing 0;thing;pupil 1;");
+        Counted first = Check.school("spell 0 0 9 9;thing 0;thing;pupil 1;");
         due("copy(0, 0, 1)", first.copy(0, 0, 1), 0);
         due("now(0), 1 at first", first.now(0), 1);
     }
 
     private static void undo() {
         promise = 13;
-        SpellLayers x = small();
+        Counted x = small();
         refused(x, "undo() of none", x::undo, -2);
-        String start = looks(x);
+        String start = x.looks();
         x.lay(0, 0, 1);
         x.lift(0, 2);
         x.swap(0, 0);
-        String ahead = looks(x);
+        String ahead = x.looks();
         x.copy(0, 0, 1);
         due("undo() of copy", x.undo(), 3);
-        check.holds("undo() of copy leaves all as ahead", looks(x).equals(ahead));
+        check.holds("undo() of copy leaves all as ahead", x.looks().equals(ahead));
         due("undo() of swap", x.undo(), 2);
         due("layer(0, 0)", x.layer(0, 0), 1);
         due("now(0)", x.now(0), 6);
@@ -468,7 +450,7 @@ public final class PromisesTest {
         due("layer(2, 1)", x.layer(2, 1), 0);
         due("now(0)", x.now(0), 4);
         due("undo() of lay", x.undo(), 0);
-        check.holds("undo() of all leaves the start", looks(x).equals(start));
+        check.holds("undo() of all leaves the start", x.looks().equals(start));
         due("undo()", x.undo(), -2);
         for (int i = 0; i < 15; i++) {
             due("now(3)", x.now(3), Math.min(i, 12));
@@ -490,7 +472,7 @@ public final class PromisesTest {
 
     private static void now() {
         promise = 14;
-        SpellLayers x = small();
+        Counted x = small();
         due("now(0)", x.now(0), 0);
         due("now(1)", x.now(1), 4);
         due("now(2)", x.now(2), 6);
@@ -511,8 +493,8 @@ public final class PromisesTest {
 
     private static void cheapest() {
         promise = 15;
-        SpellLayers x = small();
-        String ahead = looks(x);
+        Counted x = small();
+        String ahead = x.looks();
         // Thing 0 is 1 below 0: works 3.
         due("cheapest(0, 3, 0, 0) as it is", x.cheapest(0, 3, 0, 0), 0);
         due("cheapest(0, 3, 0, 1) as it is", x.cheapest(0, 3, 0, 1), -5);
@@ -531,7 +513,7 @@ public final class PromisesTest {
         due("cheapest(1, 8, 7, 0) with no such spell", x.cheapest(1, 8, 7, 0), -9);
         due("cheapest(1, 1023, 7, 1)", x.cheapest(1, 1023, 7, 1), -9);
         due("cheapest(2, 5, 7, 0) by lift, swap, lift", x.cheapest(2, 5, 7, 0), 5);
-        check.holds("cheapest() changes nothing", looks(x).equals(ahead));
+        check.holds("cheapest() changes nothing", x.looks().equals(ahead));
         for (int wrong : new int[] {-1, 3, LEAST, MOST}) {
             due("cheapest(" + wrong + ", ..)", x.cheapest(wrong, 0, 0, 0), -1);
         }
@@ -551,27 +533,27 @@ public final class PromisesTest {
     private static void cheapestFirst() {
         promise = 15;
         // All is free: the fewest words, then the least number.
-        SpellLayers free = Check.school("spell 0 0 0 0;spell 0 1 0 0;spell 1 0 0 0;thing 2 0;pupil 7;swap 0;");
+        Counted free = Check.school("spell 0 0 0 0;spell 0 1 0 0;spell 1 0 0 0;thing 2 0;pupil 7;swap 0;");
         due("swap or lift or lay: lay", free.cheapest(0, 2, 1, 1), 2);
         due("least of two spells", Check.school("spell 1 0 0 0;spell 0 0 0 0;spell 0 1 0 0;thing;pupil 7;")
             .cheapest(0, 1, 1, 1), 1);
         // The least cost goes ahead of the fewest words: two words for 2, or one for 9.
-        SpellLayers cost = Check.school("spell 0 0 9 0;spell 1 0 1 1;spell 2 1 1 1;thing 0 1;pupil 7;swap 9;");
+        Counted cost = Check.school("spell 0 0 9 0;spell 1 0 1 1;spell 2 1 1 1;thing 0 1;pupil 7;swap 9;");
         due("cost ahead of words", cost.cheapest(0, 1, 1, 0), 1);
         due("lift", cost.cheapest(0, 1, 1, 1), 5);
-        SpellLayers long2 = Check.school("spell 0 0 9 0;spell 1 1 1 1;spell 2 0 1 1;thing 0 1;pupil 7;swap 9;");
+        Counted long2 = Check.school("spell 0 0 9 0;spell 1 1 1 1;spell 2 0 1 1;thing 0 1;pupil 7;swap 9;");
         due("two words for 2", long2.cheapest(0, 6, 1, 0), 2);
         due("lay 2, lay 1 needs no lift", long2.cheapest(0, 6, 1, 1), 2);
         // A full thing: nothing can be laid ahead of a lift.
-        SpellLayers full = Check.school("spell 0 0 0 5;spell 1 0 0 0;thing 0 0 0 0 0;pupil 3;");
+        Counted full = Check.school("spell 0 0 0 5;spell 1 0 0 0;thing 0 0 0 0 0;pupil 3;");
         due("lift, then lay", full.cheapest(0, 2, 1, 0), 5);
         due("lift, then lay", full.cheapest(0, 2, 1, 1), 5);
         // One pupil must be able to say both to swap; together they lift and lay.
-        SpellLayers two = Check.school("spell 0 0 3 3;spell 1 0 4 4;thing 0 1;pupil 1;pupil 2;pupil 3;swap 1;");
+        Counted two = Check.school("spell 0 0 3 3;spell 1 0 4 4;thing 0 1;pupil 1;pupil 2;pupil 3;swap 1;");
         due("swap by one who may say both", two.cheapest(0, 1, 4, 0), 1);
         due("swap by none", two.cheapest(0, 1, 3, 0), 3);
         due("lay", two.cheapest(0, 1, 3, 1), 0);
-        SpellLayers great = Check.school(GREAT);
+        Counted great = Check.school(GREAT);
         due("far", great.cheapest(0, 512, 7, 0), 36);
         due("five laid", great.cheapest(1, 992, 1, 0), 45);
         due("five laid, the lowest first", great.cheapest(1, 992, 1, 1), 4);
@@ -580,7 +562,7 @@ public final class PromisesTest {
 
     private static void takes() {
         promise = 16;
-        SpellLayers x = small();
+        Counted x = small();
         due("takes(0, 3)", x.takes(0, 3), 0);
         due("takes(0, 2)", x.takes(0, 2), 1);
         due("takes(0, 7)", x.takes(0, 7), 2);
@@ -592,29 +574,29 @@ public final class PromisesTest {
         for (int wrong : new int[] {-1, 1024, LEAST, MOST}) {
             due("takes(0, " + wrong + ")", x.takes(0, wrong), -1);
         }
-        SpellLayers y = Check.school("spell 0 1 0 0;spell 1 1 0 0;spell 2 1 0 0;thing;pupil 1;pupil 2;pupil 7;");
+        Counted y = Check.school("spell 0 1 0 0;spell 1 1 0 0;spell 2 1 0 0;thing;pupil 1;pupil 2;pupil 7;");
         due("takes(): one ahead of two", y.takes(0, 3), 4);
         due("takes(): the least of several", y.takes(0, 1), 1);
-        SpellLayers z = Check.school("spell 0 1 0 0;spell 1 1 0 0;spell 2 1 0 0;thing;pupil 1;pupil 3;pupil 6;");
+        Counted z = Check.school("spell 0 1 0 0;spell 1 1 0 0;spell 2 1 0 0;thing;pupil 1;pupil 3;pupil 6;");
         due("takes(): two, the least bits", z.takes(0, 7), 5);
         due("takes(): all", Check.school("spell 0 1 0 0;spell 1 1 0 0;spell 2 1 0 0;thing;pupil 1;pupil 2;pupil 4;")
             .takes(0, 7), 7);
-        SpellLayers full = Check.school("spell 0 1 0 0;spell 1 1 0 0;thing 0 0 0 0 0;pupil 2;pupil 3;");
+        Counted full = Check.school("spell 0 1 0 0;spell 1 1 0 0;thing 0 0 0 0 0;pupil 2;pupil 3;");
         due("takes(): no room for one who may not lift", full.takes(0, 3), 2);
-        SpellLayers under = Check.school("spell 0 0 0 0;spell 1 1 0 0;thing 1 0;pupil 2;pupil 1;");
+        Counted under = Check.school("spell 0 0 0 0;spell 1 1 0 0;thing 1 0;pupil 2;pupil 1;");
         due("takes(): what lies under one that he may not", under.takes(0, 2), 2);
         due("takes(): nobody in the school", Check.school("thing;").takes(0, 0), 0);
     }
 
     private static void learn() {
         promise = 17;
-        SpellLayers x = small();
+        Counted x = small();
         int[][] told = {{0, 0, 0}, {1, 1, 1}, {2, 1, 2}, {4, 1, 4}, {3, 2, 3}, {5, 2, 5}, {7, 3, 7}, {8, -9, -9}};
         for (int[] row : told) {
             due("learn(" + row[0] + ", 0)", x.learn(row[0], 0), row[1]);
             due("learn(" + row[0] + ", 1)", x.learn(row[0], 1), row[2]);
         }
-        SpellLayers walls = Check.school("spell 0 0 0 0;spell 1 0 0 0;spell 1 1 0 0;spell 0 1 0 0;");
+        Counted walls = Check.school("spell 0 0 0 0;spell 1 0 0 0;spell 1 1 0 0;spell 0 1 0 0;");
         due("learn(3, 1): one of them of glass", walls.learn(3, 1), 5);
         due("learn(1, 1): the least of two", walls.learn(1, 1), 1);
         due("learn(3, 0)", Check.school("spell 0 0 0 0;spell 1 0 0 0;").learn(3, 0), -9);
@@ -629,7 +611,7 @@ public final class PromisesTest {
 
     private static void sawAndForget() {
         promise = 18;
-        SpellLayers x = small();
+        Counted x = small();
         for (int wrong : new int[] {-1, 4, LEAST, MOST}) {
             refused(x, "saw(" + wrong + ", 0)", () -> x.saw(wrong, 0), -1);
         }
@@ -651,14 +633,14 @@ public final class PromisesTest {
         promise = 18;
         due("saw(0, 1023)", x.saw(0, 1023), 1);
         due("could()", x.could(), 0);
-        SpellLayers y = small();
+        Counted y = small();
         y.saw(1, 2);
         due("saw(1, 2) does not touch the things", y.now(2), 6);
     }
 
     private static void could() {
         promise = 20;
-        SpellLayers x = small();
+        Counted x = small();
         due("could()", x.could(), 40);
         x.saw(3, 0);
         due("could() with three", x.could(), 27);
@@ -677,7 +659,7 @@ public final class PromisesTest {
 
     private static void under() {
         promise = 21;
-        SpellLayers x = small();
+        Counted x = small();
         due("under(0) of all", x.under(0), -5);
         x.saw(0, 2);
         due("under(0) with 1 alone at work", x.under(0), 1);
@@ -696,7 +678,7 @@ public final class PromisesTest {
         for (int wrong : new int[] {-1, 3, LEAST, MOST}) {
             due("under(" + wrong + ")", x.under(wrong), -1);
         }
-        SpellLayers y = small();
+        Counted y = small();
         y.saw(2, 4);
         y.saw(3, 0);
         due("under(2) of three", y.under(2), 2);
@@ -704,8 +686,8 @@ public final class PromisesTest {
 
     private static void lifted() {
         promise = 22;
-        due("lifted() with no spells", new SpellLayers().lifted(), 0);
-        SpellLayers x = Check.school("spell 0 0 1 1;spell 1 1 1 1;spell 0 1 0 0;");
+        due("lifted() with no spells", new Counted().lifted(), 0);
+        Counted x = Check.school("spell 0 0 1 1;spell 1 1 1 1;spell 0 1 0 0;");
         due("lifted()", x.lifted(), 2);
         x.saw(0, 3);
         due("lifted()", x.lifted(), 1);
@@ -716,14 +698,15 @@ public final class PromisesTest {
         x.saw(0, 0);
         due("lifted() of none", x.lifted(), -9);
         // Rows of 0 to 3 layers alike: 0 lifted leaves 1 or 3; 1 lifted 1 (too few), 1, 2; 2 lifted 2 (too few), 1, 1.
-        SpellLayers y = Check.school("spell 0 0 0 0;");
+        Counted y = Check.school("spell 0 0 0 0;");
         due("could()", y.could(), 4);
         due("lifted(), 1 and 2 alike", y.lifted(), 1);
         y.saw(2, 0);
         due("could()", y.could(), 1);
         due("lifted() of one row", y.lifted(), 0);
-        // Two rows of two, six of three: 0 lifted leaves 8, 1 lifted 2, 2, 4, 2 lifted 2, 3, 3, 3 lifted 2 (too few), 6.
-        SpellLayers z = Check.school("spell 0 1 0 0;spell 1 1 0 0;");
+        // Two rows of two, six of three: 0 lifted leaves 8, 1 lifted 2, 2, 4, 2 lifted 2, 3, 3, 3 lifted 2 (too few)
+        // and 6.
+        Counted z = Check.school("spell 0 1 0 0;spell 1 1 0 0;");
         z.saw(0, 3);
         due("could()", z.could(), 8);
         due("lifted()", z.lifted(), 2);
@@ -731,8 +714,8 @@ public final class PromisesTest {
 
     private static void broom() {
         promise = 23;
-        SpellLayers x = Check.school("spell 0 0 1 1;spell 1 1 1 1;thing;thing 0;thing 0 1;pupil 3;pupil 1;pupil 0;swap 9;");
-        String ahead = looks(x);
+        Counted x = Check.school("spell 0 0 1 1;spell 1 1 1 1;thing;thing 0;thing 0 1;pupil 3;pupil 1;pupil 0;swap 9;");
+        String ahead = x.looks();
         due("broom n 0, it is so", x.broom(1, 0, 1, 0, 0, 0), 1);
         due("broom n 0, it is so, first", x.broom(1, 0, 1, 0, 0, 1), -9);
         due("broom n 0, it is not so", x.broom(0, 0, 1, 0, 0, 0), 0);
@@ -748,15 +731,15 @@ public final class PromisesTest {
         due("broom n 1, a lay is less than nothing", x.broom(1, 0, 2, 1, 0, 1), 0);
         due("broom n 3, a has the last word", x.broom(0, 0, 1, 3, 1, 0), 1);
         due("broom n 4, b has the last word", x.broom(0, 0, 1, 4, 1, 0), 0);
-        check.holds("broom() changes nothing", looks(x).equals(ahead));
-        SpellLayers full = Check.school("spell 0 0 0 0;spell 1 0 0 0;thing 0 0 0 0 0;thing 0 0 0 1 0;pupil 3;pupil 3;");
+        check.holds("broom() changes nothing", x.looks().equals(ahead));
+        Counted full = Check.school("spell 0 0 0 0;spell 1 0 0 0;thing 0 0 0 0 0;thing 0 0 0 1 0;pupil 3;pupil 3;");
         due("broom on a full thing, one word", full.broom(0, 0, 1, 1, 1, 0), 0);
         due("broom on a full thing, lift", full.broom(1, 0, 1, 1, 1, 1), 5);
-        SpellLayers swap = Check.school("spell 0 0 0 0;spell 1 0 0 0;spell 2 0 0 0;thing 0 0 0 1 2;"
+        Counted swap = Check.school("spell 0 0 0 0;spell 1 0 0 0;spell 2 0 0 0;thing 0 0 0 1 2;"
             + "thing 1 2;pupil 6;pupil 0;");
         due("broom by swap or lift", swap.broom(0, 0, 1, 1, 1, 1), 5);
         due("broom, lay", swap.broom(1, 0, 1, 1, 1, 1), 1);
-        SpellLayers only = Check.school("spell 0 0 0 0;spell 1 0 0 0;thing 1 1 1 0 1;pupil 3;pupil 2;pupil 0;");
+        Counted only = Check.school("spell 0 0 0 0;spell 1 0 0 0;thing 1 1 1 0 1;pupil 3;pupil 2;pupil 0;");
         // Lifted: b lays 1 on 0 again. Changed places: b may not lift the 0.
         due("broom n 2, swap", only.broom(0, 0, 1, 2, 0, 1), 6);
         for (int wrong : new int[] {-1, 3, LEAST, MOST}) {
@@ -779,7 +762,7 @@ public final class PromisesTest {
 
     private static void odds() {
         promise = 24;
-        SpellLayers x = new SpellLayers();
+        Counted x = new Counted();
         long[][] told = {
             {0, 0, 1, 1}, {0, 10, 1, 1}, {0, 3, 1, 1}, {9, 0, 1, 1}, {1, 10, 0, 1}, {9, 10, 0, 1}, {1, 1, 9, 10},
             {1, 2, 4, 5}, {2, 2, 16, 25}, {1, 5, 1, 2}, {3, 5, 1, 8}, {9, 5, 1, 512}, {2, 4, 9, 25}, {3, 6, 8, 125},
@@ -803,7 +786,7 @@ public final class PromisesTest {
 
     private static void rate() {
         promise = 25;
-        SpellLayers x = small();
+        Counted x = small();
         // Effect 1, laid for 4, lifted for 1; one pupil may say it; it is in two layers.
         int[] told = {1, 5, 0, 10, 1, 3};
         for (int kind = 0; kind < told.length; kind++) {
@@ -820,7 +803,7 @@ public final class PromisesTest {
         for (int wrong : new int[] {-1, 3, LEAST, MOST}) {
             refused(x, "rate(0, " + wrong + ")", () -> x.rate(0, wrong), -1000000);
         }
-        SpellLayers y = Check.school("spell 9 0 9 0;spell 0 0 0 9;pupil 1;pupil 1;pupil 3;");
+        Counted y = Check.school("spell 9 0 9 0;spell 0 0 0 9;pupil 1;pupil 1;pupil 3;");
         due("rate(3, 0)", y.rate(3, 0), 36);
         due("rate(4, 0)", y.rate(4, 0), 12);
         due("rate(4, 1)", y.rate(4, 1), -8);
@@ -829,12 +812,12 @@ public final class PromisesTest {
 
     private static void keepAndBack() {
         promise = 26;
-        SpellLayers x = small();
+        Counted x = small();
         for (int wrong : new int[] {-1, 2, LEAST, MOST}) {
             refused(x, "keep(" + wrong + ")", () -> x.keep(wrong), -1);
         }
         due("keep(0)", x.keep(0), 0);
-        String start = looks(x);
+        String start = x.looks();
         x.lay(0, 0, 1);
         x.lay(0, 1, 1);
         due("keep(1)", x.keep(1), 8);
@@ -847,7 +830,7 @@ public final class PromisesTest {
         due("now(3) behind back()", x.now(3), 0);
         due("undo() behind back()", x.undo(), -2);
         due("back(0)", x.back(0), 0);
-        check.holds("back(0) is as at the start", looks(x).equals(start));
+        check.holds("back(0) is as at the start", x.looks().equals(start));
         due("back(1) again", x.back(1), 8);
         due("now(2)", x.now(2), 8);
         x.lift(0, 1);
@@ -866,7 +849,7 @@ public final class PromisesTest {
         for (int wrong : new int[] {-1, 2, LEAST, MOST}) {
             refused(x, "back(" + wrong + ")", () -> x.back(wrong), -1);
         }
-        SpellLayers y = small();
+        Counted y = small();
         y.lay(0, 0, 0);
         refused(y, "back(0) of none", () -> y.back(0), -2);
         refused(y, "back(1) of none", () -> y.back(1), -2);
@@ -877,7 +860,7 @@ public final class PromisesTest {
 
     private static void count() {
         promise = 28;
-        SpellLayers x = small();
+        Counted x = small();
         x.saw(0, 0);
         x.type(0, 3);
         int[] counts = {3, 3, 3, 1, 3, 2, 5, 3};
@@ -887,12 +870,12 @@ public final class PromisesTest {
         for (int wrong : new int[] {-1, 8, LEAST, MOST}) {
             due("count(" + wrong + ")", x.count(wrong), -1);
         }
-        SpellLayers other = Check.school("swap 3;hum 2;copy 6;");
+        Counted other = Check.school("swap 3;hum 2;copy 6;");
         int[] told = {3, 6, 2};
         for (int what = 5; what < 8; what++) {
             due("count(" + what + ")", other.count(what), told[what - 5]);
         }
-        SpellLayers great = Check.school(GREAT);
+        Counted great = Check.school(GREAT);
         int[] most = {5, 4, 3, 0, 0, 0, 9, 5};
         for (int what = 0; what < 8; what++) {
             due("count(" + what + ")", great.count(what), most[what]);
@@ -901,7 +884,7 @@ public final class PromisesTest {
 
     private static void trace() {
         promise = 29;
-        SpellLayers x = small();
+        Counted x = small();
         long sum = 0;
         long[] bodies = {1, 11, 101, 1011, 10101, 100001};
         for (int kind = 0; kind < 6; kind++) {
