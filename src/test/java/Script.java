@@ -50,7 +50,7 @@ final class Script {
         Check.write(x, text);
     }
 
-    /** Makes a call; MIN and MAX are the ends of what the parameter's type holds. */
+    /** Makes a call; MIN and MAX are the ends of what the parameter's type holds, a long may be told as 0x..L. */
     long ask(String call) {
         Method method = METHODS.get(call.substring(0, call.indexOf('(')));
         String inside = call.substring(call.indexOf('(') + 1, call.lastIndexOf(')'));
@@ -72,6 +72,9 @@ final class Script {
     }
 
     private static long longOf(String told) {
+        if (told.startsWith("0x") && told.endsWith("L")) {
+            return Long.decode(told.substring(0, told.length() - 1));
+        }
         return told.equals("MIN") ? Long.MIN_VALUE : told.equals("MAX") ? Long.MAX_VALUE : Long.parseLong(told);
     }
 }
