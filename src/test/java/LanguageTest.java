@@ -107,7 +107,8 @@ public final class LanguageTest {
 
         @Override
         public Void visitImport(ImportTree tree, Void none) {
-            rule("4: import " + tree.getQualifiedIdentifier(), tree, tree.getQualifiedIdentifier().toString().equals("java.util.Arrays"));
+            String name = tree.getQualifiedIdentifier().toString();
+            rule("4: import " + name, tree, name.equals("java.util.Arrays"));
             return null;
         }
 
